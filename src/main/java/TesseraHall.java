@@ -91,8 +91,7 @@ public final class TesseraHall {
         checkUnknown(on.grid, cell);
         tryOut(on.grid, cell, isDark);
         // One PICTURE is enough to see that there is any.
-        trialAlbum.lookAt(trial, 1);
-        if (trialAlbum.count == 0) {
+        if (trialAlbum.lookAt(trial, 1).count == 0) {
             on.mistakes++;
             return false;
         }
@@ -250,13 +249,13 @@ public final class TesseraHall {
             case 6:
                 return on.mistakes;
             case 7:
-                return lookedAt(on).count;
+                return on.album.lookAt(on.grid, MOST_PICTURES).count;
             case 8:
                 return on.grid.openLines();
             case 9:
                 return on.sweeps;
             default:
-                return lookedAt(on).alwaysSame() & on.grid.unknownSet();
+                return on.album.lookAt(on.grid, MOST_PICTURES).alwaysSame() & on.grid.unknownSet();
         }
     }
 
@@ -279,35 +278,32 @@ public final class TesseraHall {
         if (nth < 0 || nth >= MOST_PICTURES) {
             throw new IllegalArgumentException("nth is 0 to 499");
         }
-        return lookedAt(on).pictureAt(nth);
+        return on.album.lookAt(on.grid, MOST_PICTURES).pictureAt(nth);
     }
 
     public double chance(int board, int cell) throws IndexOutOfBoundsException {
         Board on = boardAt(board);
         checkCell(on.grid, cell);
-        return lookedAt(on).chanceOf(cell);
+        return on.album.lookAt(on.grid, MOST_PICTURES).chanceOf(cell);
     }
 
     public double blur(int board, int what) throws IndexOutOfBoundsException, IllegalArgumentException {
         Board on = boardAt(board);
         checkWhat(what, 1);
-        return what == 0 ? on.grid.looseness() : (double) lookedAt(on).fogOver(on.grid);
+        return what == 0 ? on.grid.looseness() : (double) on.album.lookAt(on.grid, MOST_PICTURES).fogOver(on.grid);
     }
 
     public int many(int what) throws IllegalArgumentException {
         checkWhat(what, 4);
-        switch (what) {
-            case 0:
-                return boardCount;
-            case 1:
-                return refused;
-            case 2:
-                return sumOverBoards(6);
-            case 3:
-                return sumOverBoards(2);
-            default:
-                return sumOverBoards(5);
+        if (what <= 1) {
+            return what == 0 ? boardCount : refused;
         }
+        int sum = 0;
+        for (int board = 0; board < boardCount; board++) {
+            Board on = boardAt(board);
+            sum += what == 2 ? on.mistakes : what == 3 ? on.grid.countOf(UNKNOWN) : on.guesses;
+        }
+        return sum;
     }
 
     // ---- what would be (nothing is changed)
@@ -328,7 +324,7 @@ public final class TesseraHall {
 
     public int toss(int board) throws IndexOutOfBoundsException {
         Board on = boardAt(board);
-        Album album = lookedAt(on);
+        Album album = on.album.lookAt(on.grid, MOST_PICTURES);
         int best = NONE;
         double nearest = 1.0;
         if (album.count == 0) {
@@ -355,8 +351,7 @@ public final class TesseraHall {
         checkUnknown(grid, cell);
         tryOut(grid, cell, isDark);
         if (what == 2) {
-            trialAlbum.lookAt(trial, MOST_PICTURES);
-            return trialAlbum.count;
+            return trialAlbum.lookAt(trial, MOST_PICTURES).count;
         }
         int followed = trial.followAll(0);
         if (what == 0) {
@@ -366,7 +361,8 @@ public final class TesseraHall {
     }
 
     public int needs(int board) throws IndexOutOfBoundsException {
-        return lookedAt(boardAt(board)).fewestToTellFirst();
+        Board on = boardAt(board);
+        return on.album.lookAt(on.grid, MOST_PICTURES).fewestToTellFirst();
     }
 
     public int alike(int one, int other) throws IndexOutOfBoundsException {
@@ -427,22 +423,9 @@ public final class TesseraHall {
         return found;
     }
 
-    private Album lookedAt(Board on) {
-        on.album.lookAt(on.grid, MOST_PICTURES);
-        return on.album;
-    }
-
     private void tryOut(Grid grid, int cell, boolean isDark) {
         trial.takeAll(grid);
         trial.put(cell, stateOf(isDark), BY_HAND, 0, 0);
-    }
-
-    private int sumOverBoards(int what) {
-        int sum = 0;
-        for (int board = 0; board < boardCount; board++) {
-            sum += ofBoard(board, what);
-        }
-        return sum;
     }
 
     private static void checkCell(Grid grid, int cell) {
@@ -764,10 +747,10 @@ public final class TesseraHall {
         void takeTurned(Grid other, int how) {
             wide = how == TILT ? other.high : other.wide;
             high = how == TILT ? other.wide : other.high;
-            for (int cell = 0; cell < other.cellCount(); cell++) {
-                int reason = other.aspectOf(cell, REASON);
-                put(other.turnedCell(cell, how), other.stateAt(cell), reason < 0 ? reason : other.turnedLine(reason, how),
-                        other.aspectOf(cell, ROUND), other.aspectOf(cell, DEPTH));
+            for (int row = 0; row < other.high; row++) {
+                for (int column = 0; column < other.wide; column++) {
+                    takeTurnedCell(other, row, column, how);
+                }
             }
             for (int line = 0; line < other.lineCount(); line++) {
                 int clue = other.clues[line];
@@ -775,13 +758,14 @@ public final class TesseraHall {
             }
         }
 
-        private int turnedCell(int cell, int how) {
-            int row = cell / wide;
-            int column = cell % wide;
-            if (how == HALF) {
-                return (high - 1 - row) * wide + wide - 1 - column;
-            }
-            return how == MIRROR ? row * wide + wide - 1 - column : column * high + row;
+        private void takeTurnedCell(Grid other, int row, int column, int how) {
+            int toRow = how == TILT ? column : how == HALF ? high - 1 - row : row;
+            int toColumn = how == TILT ? row : wide - 1 - column;
+            int from = other.cellAt(row, column);
+            int reason = other.aspectOf(from, REASON);
+            int newReason = reason < 0 ? reason : other.turnedLine(reason, how);
+            put(cellAt(toRow, toColumn), other.stateAt(from), newReason, other.aspectOf(from, ROUND),
+                    other.aspectOf(from, DEPTH));
         }
 
         private int turnedLine(int line, int how) {
@@ -867,6 +851,8 @@ public final class TesseraHall {
     private static final class Album {
         private final int[] pictures = new int[MOST_PICTURES];
         private final int[] lineWays = new int[MOST_LINES];
+        private final Grid swept = new Grid(SHORTEST, SHORTEST);
+        private final int[] rowWays = new int[LONGEST];
         /** The WAYS of each column that agree with the rows laid so far, a part for each number of these. */
         private final int[] columnWays = new int[(LONGEST + 1) * LONGEST];
         private final int[] darkCounts = new int[MOST_CELLS];
@@ -876,17 +862,27 @@ public final class TesseraHall {
         private int most;
         private int count;
 
-        void lookAt(Grid grid, int most) {
-            if (!isChangedBy(grid, most)) {
-                return;
+        Album lookAt(Grid grid, int most) {
+            if (isChangedBy(grid, most)) {
+                count = 0;
+                isCounted = false;
+                narrowLines(grid);
+                if (canGoOn(0)) {
+                    layRow(0, 0);
+                }
             }
-            count = 0;
-            isCounted = false;
+            return this;
+        }
+
+        /** A SWEEP costs no PICTURE, as they all show what follows, and it spares most of the hopeless searches. */
+        private void narrowLines(Grid grid) {
+            swept.takeAll(grid);
+            swept.followAll(0);
+            for (int row = 0; row < high; row++) {
+                rowWays[row] = swept.waysOf(row);
+            }
             for (int column = 0; column < wide; column++) {
-                columnWays[column] = lineWays[high + column];
-            }
-            if (canGoOn(0)) {
-                layRow(0, 0);
+                columnWays[column] = swept.waysOf(high + column);
             }
         }
 
@@ -897,16 +893,20 @@ public final class TesseraHall {
             this.most = most;
             for (int line = 0; line < grid.lineCount(); line++) {
                 int ways = grid.waysOf(line);
-                isChanged |= lineWays[line] != ways;
-                lineWays[line] = ways;
+                if (lineWays[line] != ways) {
+                    isChanged = true;
+                    lineWays[line] = ways;
+                }
             }
             return isChanged;
         }
 
         private void layRow(int row, int darks) {
             if (row >= high) {
-                pictures[count] = darks;
-                count++;
+                if (count < MOST_PICTURES) {
+                    pictures[count] = darks;
+                    count++;
+                }
                 return;
             }
             int ways = agreeingWays(row, row);
@@ -942,7 +942,7 @@ public final class TesseraHall {
 
         /** The WAYS of a row that no column forbids by itself, once so many rows are laid. */
         private int agreeingWays(int laid, int row) {
-            int ways = lineWays[row];
+            int ways = rowWays[row];
             for (int column = 0; column < wide; column++) {
                 int down = columnWays[laid * LONGEST + column];
                 if ((down & DARK_AT[row]) == 0) {

@@ -5,6 +5,8 @@ public final class PromiseTest {
     private static final Class<?> INDEX = IndexOutOfBoundsException.class;
     private static final Class<?> ARGUMENT = IllegalArgumentException.class;
     private static final Class<?> STATE = IllegalStateException.class;
+    /** Its rows and columns read otherwise from the other end. */
+    private static final String[] SKEW = {"#.##.", "....#", "##..#", "#.#.#"};
     private static final int MIN = Integer.MIN_VALUE;
     private static final int MAX = Integer.MAX_VALUE;
     private static int wrong = 0;
@@ -39,6 +41,7 @@ public final class PromiseTest {
         needs();
         alikes();
         digests();
+        sameWaysOtherSize();
         changesNothing();
         System.out.println(asked + " answers asked, " + wrong + " wrong");
         if (wrong > 0) {
@@ -386,6 +389,7 @@ public final class PromiseTest {
         due(10, "paint(0, 1, 8)", x.paint(0, 1, 8), 5);
         due(10, "REASON of 4", x.ofCell(0, 4, 1), -1);
         due(10, "ROUND of 4", x.ofCell(0, 4, 2), 0);
+        due(10, "DEPTH of 4", x.ofCell(0, 4, 3), 0);
         due(10, "the CLUE stays", x.ofLine(0, 1, 0), 4);
         for (int set : new int[] {-1, 16, MIN, MAX}) {
             refuses(10, x, "paint(0, 0, " + set + ")", ARGUMENT, () -> x.paint(0, 0, set));
@@ -425,6 +429,11 @@ public final class PromiseTest {
             x.guess(0, cell, false);
         }
         refuses(11, x, "read(0) upon GUESSES", STATE, () -> x.read(0));
+        TesseraHall one = hallOf(3, 2);
+        one.paint(0, 0, 7);
+        one.mark(0, 3, true);
+        one.mark(0, 4, true);
+        refuses(11, one, "read(0) with one UNKNOWN CELL", STATE, () -> one.read(0));
         TesseraHall y = hallOf(2, 2);
         for (int cell = 0; cell < 4; cell++) {
             y.guess(0, cell, true);
@@ -577,6 +586,7 @@ public final class PromiseTest {
         due(17, "BROKEN LINES", x.ofBoard(0, 4), 1);
         due(17, "COUNT of a BROKEN BOARD", x.ofBoard(0, 7), 0);
         due(17, "SETTLED of a BROKEN BOARD", x.ofBoard(0, 10), 0);
+        settled();
         TesseraHall y = hallOf(3, 3);
         due(17, "COUNT of 512 PICTURES", y.ofBoard(0, 7), 500);
         // Row 0 counts ahead of all: of 512, the last twelve lack; none of the cells is the same in all others.
@@ -589,6 +599,25 @@ public final class PromiseTest {
         for (int what : new int[] {-1, 11, MIN, MAX}) {
             refuses(17, x, "ofBoard(0, " + what + ")", ARGUMENT, () -> x.ofBoard(0, what));
         }
+    }
+
+    private static void settled() {
+        TesseraHall x = sixPictures();
+        x.mark(0, 8, true);
+        due(17, "SETTLED of two PICTURES", x.ofBoard(0, 10), (1 << 2) + (1 << 5) + (1 << 6) + (1 << 7));
+        TesseraHall y = hallOf(2, 3);
+        y.clue(0, 3, 3);
+        due(17, "SETTLED as DARK", y.ofBoard(0, 10), 0b010101);
+        y.clue(0, 0, 0);
+        due(17, "SETTLED without PICTURES, none BROKEN", y.ofBoard(0, 10), 0);
+        due(17, "BROKEN LINES", y.ofBoard(0, 4), 0);
+        y.clue(0, 3, 0);
+        y.clue(0, 4, 2);
+        y.clue(0, 1, 1);
+        // The column 1 is dark in the row 1, and in one of its neighbours, of which the row 0 is light.
+        due(17, "SETTLED as one PICTURE", y.ofBoard(0, 10), 0b111111);
+        due(17, "COUNT", y.ofBoard(0, 7), 1);
+        due(17, "the PICTURE", y.picture(0, 0), 0b101000);
     }
 
     private static void texts() {
@@ -640,6 +669,11 @@ public final class PromiseTest {
         due(20, "chance(0, 0) without PICTURES", x.chance(0, 0), 0.0);
         TesseraHall y = hallOf(3, 3);
         due(20, "chance(0, 0) in 500 of 512", y.chance(0, 0), 244.0 / 500.0);
+        TesseraHall z = hallOf(2, 5);
+        z.clue(0, 6, 4);
+        z.turn(0, 2);
+        due(20, "chance(0, 9) of 5 by 2", z.chance(0, 9), 0.5);
+        due(20, "chance(0, 8) of 5 by 2", z.chance(0, 8), 1.0);
         for (int board : new int[] {-1, 1, MIN, MAX}) {
             refuses(20, x, "chance(" + board + ", 0)", INDEX, () -> x.chance(board, 0));
         }
@@ -667,6 +701,18 @@ public final class PromiseTest {
         due(21, "blur(0, 1) without PICTURES", x.blur(0, 1), 0.0);
         x.clue(0, 0, 11);
         due(21, "blur(0, 1) without PICTURES", x.blur(0, 1), 0.0);
+        TesseraHall w = hallOf(2, 3);
+        w.clue(0, 1, 0);
+        w.clue(0, 3, 1);
+        // The column 0 has one of the rows 0 and 2, the column 1 any of both: shares of a half and of 0.
+        due(21, "blur(0, 1) of halves", w.blur(0, 1), 2.0);
+        TesseraHall v = hallOf(5, 2);
+        v.clue(0, 0, 4);
+        v.clue(0, 1, 0);
+        // Two PICTURES: all but the last CELL, all but the first one.
+        due(21, "blur(0, 1) of 4 in 5", v.blur(0, 1), 1.0);
+        v.clue(0, 0, 3);
+        due(21, "blur(0, 1) of 3 in 5", v.blur(0, 1), (double) fogOf(1f / 3, 2f / 3, 1f, 2f / 3, 1f / 3));
         TesseraHall y = hallOf(3, 3);
         due(21, "blur(0, 0) of an OPEN BOARD", y.blur(0, 0), 1.0);
         y.paint(0, 0, 1);
@@ -680,6 +726,14 @@ public final class PromiseTest {
         for (int what : new int[] {-1, 2, MIN, MAX}) {
             refuses(21, x, "blur(0, " + what + ")", ARGUMENT, () -> x.blur(0, what));
         }
+    }
+
+    private static float fogOf(float... shares) {
+        float fog = 0f;
+        for (float share : shares) {
+            fog += Math.min(share, 1f - share);
+        }
+        return fog;
     }
 
     private static void manies() {
@@ -794,18 +848,34 @@ public final class PromiseTest {
         TesseraHall y = hallOf(2, 2);
         y.clue(0, 0, 0);
         due(26, "needs(0) of four PICTURES", y.needs(0), 2);
+        TesseraHall z = hallOf(5, 2);
+        z.clue(0, 0, 4);
+        z.clue(0, 1, 0);
+        due(26, "needs(0): by the first CELL, or by the fifth", z.needs(0), 1);
+        z.turn(0, 1);
+        z.turn(0, 0);
+        due(26, "needs(0): by the sixth CELL, or by the tenth", z.needs(0), 1);
+        z.wipe(0);
+        for (int line = 0; line < 7; line++) {
+            z.open(0, line);
+        }
+        z.clue(0, 0, 0);
+        for (int column = 0; column < 3; column++) {
+            z.clue(0, 2 + column, 0);
+        }
+        due(26, "needs(0): by the ninth CELL and the tenth", z.needs(0), 2);
         for (int board : new int[] {-1, 1, MIN, MAX}) {
             refuses(26, x, "needs(" + board + ")", INDEX, () -> x.needs(board));
         }
     }
 
     private static void alikes() {
-        TesseraHall x = readOff("#.##.", "##..#", "#.#..");
-        addReadOff(x, "#.##.", "##..#", "#.#..");
+        TesseraHall x = readOff(SKEW);
+        addReadOff(x, SKEW);
         due(27, "alike(0, 1)", x.alike(0, 1), 0);
         for (int turning = 0; turning < 8; turning++) {
-            TesseraHall y = readOff("#.##.", "##..#", "#.#..");
-            addReadOff(y, "#.##.", "##..#", "#.#..");
+            TesseraHall y = readOff(SKEW);
+            addReadOff(y, SKEW);
             // In the order that is told: MIRROR first, HALF next, TILT last.
             if ((turning & 1) != 0) {
                 y.turn(1, 1);
@@ -886,6 +956,29 @@ public final class PromiseTest {
             }
         }
         return d;
+    }
+
+    /** The LINES of both BOARDS have the same WAYS, by their numbers, and yet other PICTURES. */
+    private static void sameWaysOtherSize() {
+        TesseraHall x = hallOf(2, 3);
+        int[] clues = {1, 1, 0, 2, 0};
+        for (int line = 0; line < 5; line++) {
+            x.clue(0, line, clues[line]);
+        }
+        x.mark(0, 4, false);
+        due(19, "picture(0, 0) of 2 by 3", x.picture(0, 0), 0b000101);
+        x.turn(0, 2);
+        x.wipe(0);
+        for (int line = 0; line < 5; line++) {
+            x.clue(0, line, clues[line]);
+        }
+        x.mark(0, 2, false);
+        x.mark(0, 5, false);
+        due(19, "picture(0, 0) of 3 by 2", x.picture(0, 0), 0b010010);
+        TesseraHall y = sixPictures();
+        y.mark(0, 4, true);
+        y.wipe(0);
+        due(25, "would(0, 4, true, 2) behind a mark", y.would(0, 4, true, 2), 2);
     }
 
     /** What is only asked leaves no trace, and the same call answers the same again. */

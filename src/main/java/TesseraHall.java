@@ -863,19 +863,12 @@ public final class TesseraHall {
         private int count;
 
         Album lookAt(Grid grid, int most) {
-            if (isChangedBy(grid, most)) {
-                count = 0;
-                isCounted = false;
-                narrowLines(grid);
-                if (canGoOn(0)) {
-                    layRow(0, 0);
-                }
+            if (!isChangedBy(grid, most)) {
+                return this;
             }
-            return this;
-        }
-
-        /** A SWEEP costs no PICTURE, as they all show what follows, and it spares most of the hopeless searches. */
-        private void narrowLines(Grid grid) {
+            count = 0;
+            isCounted = false;
+            // A SWEEP loses no PICTURE, as all of them show what follows, and it spares most hopeless searches.
             swept.takeAll(grid);
             swept.followAll(0);
             for (int row = 0; row < high; row++) {
@@ -884,6 +877,10 @@ public final class TesseraHall {
             for (int column = 0; column < wide; column++) {
                 columnWays[column] = swept.waysOf(high + column);
             }
+            if (canGoOn(0)) {
+                layRow(0, 0);
+            }
+            return this;
         }
 
         private boolean isChangedBy(Grid grid, int most) {

@@ -506,6 +506,10 @@ public final class TesseraHall {
         return turned;
     }
 
+    private static int shownBy(int number) {
+        return number >= 0 && number < SHOWN.length ? SHOWN[number] : 0;
+    }
+
     /** The set of all numbers of this length that show the CLUE (of all, if it is NONE). */
     private static int fitting(int clue, int length) {
         if (clue == NONE) {
@@ -555,18 +559,24 @@ public final class TesseraHall {
         }
 
         int clueOf(int line) {
-            return clues[line];
+            return line >= 0 && line < clues.length ? clues[line] : NONE;
         }
 
         int stateAt(int cell) {
-            return cells[cell * ASPECTS + STATE];
+            return cell >= 0 && cell < MOST_CELLS ? cells[cell * ASPECTS + STATE] : UNKNOWN;
         }
 
         int aspectOf(int cell, int what) {
+            if (cell < 0 || cell >= MOST_CELLS || what < STATE || what > DEPTH) {
+                return UNKNOWN;
+            }
             return cells[cell * ASPECTS + what];
         }
 
         void put(int cell, int state, int reason, int round, int depth) {
+            if (cell < 0 || cell >= MOST_CELLS) {
+                return;
+            }
             int at = cell * ASPECTS;
             cells[at + STATE] = state;
             cells[at + REASON] = reason;
@@ -581,8 +591,10 @@ public final class TesseraHall {
         }
 
         void tell(int line, int clue) {
-            clues[line] = clue;
-            fits[line] = fitting(clue, lengthOf(line));
+            if (line >= 0 && line < MOST_LINES) {
+                clues[line] = clue;
+                fits[line] = fitting(clue, lengthOf(line));
+            }
         }
 
         void paintRow(int row, int set) {
@@ -595,7 +607,7 @@ public final class TesseraHall {
         int tellAsShown() {
             int runs = 0;
             for (int line = 0; line < lineCount(); line++) {
-                int shown = SHOWN[darkPlaces(line)];
+                int shown = shownBy(darkPlaces(line));
                 tell(line, shown);
                 runs += runsIn(shown);
             }
@@ -613,9 +625,9 @@ public final class TesseraHall {
         }
 
         int waysOf(int line) {
-            int ways = fits[line];
+            int ways = line >= 0 && line < fits.length ? fits[line] : 0;
             int length = lengthOf(line);
-            for (int place = 0; place < length; place++) {
+            for (int place = 0; place < length && place < DARK_AT.length; place++) {
                 int state = stateAt(cellAt(line, place));
                 if (state == DARK) {
                     ways &= DARK_AT[place];
@@ -636,7 +648,7 @@ public final class TesseraHall {
             if (ways == 0) {
                 return places;
             }
-            for (int place = 0; place < lengthOf(line); place++) {
+            for (int place = 0; place < lengthOf(line) && place < DARK_AT.length; place++) {
                 int against = state == DARK ? ways & ~DARK_AT[place] : ways & DARK_AT[place];
                 if (against == 0 && stateAt(cellAt(line, place)) == UNKNOWN) {
                     places |= 1 << place;
@@ -710,7 +722,7 @@ public final class TesseraHall {
         int openLines() {
             int open = 0;
             for (int line = 0; line < lineCount(); line++) {
-                if (clues[line] == NONE) {
+                if (clueOf(line) == NONE) {
                     open++;
                 }
             }
@@ -753,7 +765,7 @@ public final class TesseraHall {
                 }
             }
             for (int line = 0; line < other.lineCount(); line++) {
-                int clue = other.clues[line];
+                int clue = other.clueOf(line);
                 tell(other.turnedLine(line, how), other.runsOtherWay(line, how) ? reversed(clue) : clue);
             }
         }
@@ -802,7 +814,7 @@ public final class TesseraHall {
                 if (isTilted) {
                     to = turnedLine(to, TILT);
                 }
-                if (other.clues[to] != (isReversed ? reversed(clues[line]) : clues[line])) {
+                if (other.clueOf(to) != (isReversed ? reversed(clueOf(line)) : clueOf(line))) {
                     return false;
                 }
             }
@@ -825,7 +837,7 @@ public final class TesseraHall {
         }
 
         void keep(int cell) {
-            if (guesses < MOST_GUESSES) {
+            if (guesses >= 0 && guesses < MOST_GUESSES) {
                 System.arraycopy(grid.cells, 0, kept, guesses * grid.cells.length, grid.cells.length);
                 guessed[guesses] = cell;
                 guesses++;
@@ -833,11 +845,11 @@ public final class TesseraHall {
         }
 
         int lastGuessed() {
-            return guesses > 0 ? guessed[guesses - 1] : NONE;
+            return guesses > 0 && guesses <= guessed.length ? guessed[guesses - 1] : NONE;
         }
 
         void restore() {
-            if (guesses > 0) {
+            if (guesses > 0 && guesses <= MOST_GUESSES) {
                 guesses--;
                 System.arraycopy(kept, guesses * grid.cells.length, grid.cells, 0, grid.cells.length);
             }
@@ -871,10 +883,10 @@ public final class TesseraHall {
             // A SWEEP loses no PICTURE, as all of them show what follows, and it spares most hopeless searches.
             swept.takeAll(grid);
             swept.followAll(0);
-            for (int row = 0; row < high; row++) {
+            for (int row = 0; row < high && row < rowWays.length; row++) {
                 rowWays[row] = swept.waysOf(row);
             }
-            for (int column = 0; column < wide; column++) {
+            for (int column = 0; column < wide && column < columnWays.length; column++) {
                 columnWays[column] = swept.waysOf(high + column);
             }
             if (canGoOn(0)) {
@@ -888,7 +900,7 @@ public final class TesseraHall {
             wide = grid.wide;
             high = grid.high;
             this.most = most;
-            for (int line = 0; line < grid.lineCount(); line++) {
+            for (int line = 0; line < grid.lineCount() && line < lineWays.length; line++) {
                 int ways = grid.waysOf(line);
                 if (lineWays[line] != ways) {
                     isChanged = true;
@@ -900,7 +912,7 @@ public final class TesseraHall {
 
         private void layRow(int row, int darks) {
             if (row >= high) {
-                if (count < MOST_PICTURES) {
+                if (count >= 0 && count < pictures.length) {
                     pictures[count] = darks;
                     count++;
                 }
@@ -921,7 +933,10 @@ public final class TesseraHall {
         }
 
         private void narrowColumns(int row, int number) {
-            for (int column = 0; column < wide; column++) {
+            if (row < 0 || row >= LONGEST) {
+                return;
+            }
+            for (int column = 0; column < wide && column < LONGEST; column++) {
                 int agreeing = isIn(number, column) ? DARK_AT[row] : ~DARK_AT[row];
                 columnWays[(row + 1) * LONGEST + column] = columnWays[row * LONGEST + column] & agreeing;
             }
@@ -939,8 +954,11 @@ public final class TesseraHall {
 
         /** The WAYS of a row that no column forbids by itself, once so many rows are laid. */
         private int agreeingWays(int laid, int row) {
+            if (laid < 0 || laid > LONGEST || row < 0 || row >= LONGEST) {
+                return 0;
+            }
             int ways = rowWays[row];
-            for (int column = 0; column < wide; column++) {
+            for (int column = 0; column < wide && column < LONGEST; column++) {
                 int down = columnWays[laid * LONGEST + column];
                 if ((down & DARK_AT[row]) == 0) {
                     ways &= ~DARK_AT[column];
@@ -953,7 +971,7 @@ public final class TesseraHall {
         }
 
         int pictureAt(int nth) {
-            return nth >= 0 && nth < count ? pictures[nth] : NONE;
+            return nth >= 0 && nth < count && nth < pictures.length ? pictures[nth] : NONE;
         }
 
         /** The set of the CELLS that are the same in all PICTURES; empty without any. */
@@ -963,7 +981,7 @@ public final class TesseraHall {
             }
             int inAll = -1;
             int inAny = 0;
-            for (int nth = 0; nth < count; nth++) {
+            for (int nth = 0; nth < count && nth < pictures.length; nth++) {
                 inAll &= pictures[nth];
                 inAny |= pictures[nth];
             }
@@ -974,13 +992,13 @@ public final class TesseraHall {
             if (!isCounted) {
                 countDarks();
             }
-            return darkCounts[cell];
+            return cell >= 0 && cell < darkCounts.length ? darkCounts[cell] : 0;
         }
 
         private void countDarks() {
-            for (int cell = 0; cell < wide * high; cell++) {
+            for (int cell = 0; cell < wide * high && cell < darkCounts.length; cell++) {
                 int darks = 0;
-                for (int nth = 0; nth < count; nth++) {
+                for (int nth = 0; nth < count && nth < pictures.length; nth++) {
                     darks += pictures[nth] >>> cell & 1;
                 }
                 darkCounts[cell] = darks;
@@ -1025,7 +1043,7 @@ public final class TesseraHall {
         /** Whether one more CELL tells the first PICTURE from all that are like it in the CELLS known. */
         private boolean tellsFirst(int known) {
             int telling = -1;
-            for (int nth = 1; nth < count && telling != 0; nth++) {
+            for (int nth = 1; nth < count && nth < pictures.length && telling != 0; nth++) {
                 int differing = pictures[nth] ^ pictures[0];
                 if ((differing & known) == 0) {
                     telling &= differing;

@@ -615,6 +615,25 @@ public final class ReturnsTest extends Asking {
         due("would(0, 0, true, 2) of 2^24", hallOf(5, 5).would(0, 0, true, 2), 500);
         due("would(0, 0, true, 2) of 256", hallOf(3, 3).would(0, 0, true, 2), 256);
         due("COUNT as it was", x.ofBoard(0, 7), 2);
+        TesseraHall y = sixPictures();
+        y.mark(0, 4, true);
+        y.wipe(0);
+        due("would(0, 4, true, 2), MARKED before and wiped", y.would(0, 4, true, 2), 2);
+        wouldCountOnEachBoard(2, 3);
+        wouldCountOnEachBoard(3, 2);
+    }
+
+    /** All LINES of the BOARD 0 are LIGHT, and so are as many of the BOARD 1, whose last LINE is BROKEN. */
+    private static void wouldCountOnEachBoard(int wide, int high) {
+        TesseraHall x = told(wide, high, 0, 0, 0, 0, 0);
+        x.board(3, 3);
+        tell(x, 1, 0, 0, 0, 0, 0, 3);
+        x.guess(1, 8, false);
+        due("would(0, 0, false, 2) of one PICTURE", x.would(0, 0, false, 2), 1);
+        due("would(1, 0, false, 2) of none", x.would(1, 0, false, 2), 0);
+        due("would(0, 0, false, 2) of one PICTURE", x.would(0, 0, false, 2), 1);
+        due("mark(0, 0, false)", x.mark(0, 0, false), true);
+        due("mark(1, 0, false)", x.mark(1, 0, false), false);
     }
 
     private static void needs() {

@@ -890,7 +890,7 @@ public final class TesseraHall {
                 columnWays[column] = swept.waysOf(high + column);
             }
             if (canGoOn(0)) {
-                layRow(0, 0);
+                layRow(this, 0, 0);
             }
             return this;
         }
@@ -910,25 +910,30 @@ public final class TesseraHall {
             return isChanged;
         }
 
-        private void layRow(int row, int darks) {
-            if (row >= high) {
-                if (count >= 0 && count < pictures.length) {
-                    pictures[count] = darks;
-                    count++;
-                }
+        /** Lays a row in each way that can go on, and so the ones below it; never deeper than there are rows. */
+        private static void layRow(Album album, int row, int darks) {
+            if (row >= album.high || row >= LONGEST) {
+                album.add(darks);
                 return;
             }
-            int ways = agreeingWays(row, row);
-            for (int number = 0; number < 1 << wide; number++) {
-                if (count >= most || count >= MOST_PICTURES) {
+            int ways = album.agreeingWays(row, row);
+            for (int number = 0; number < 1 << album.wide; number++) {
+                if (album.count >= album.most) {
                     return;
                 }
                 if (isIn(ways, number)) {
-                    narrowColumns(row, number);
-                    if (canGoOn(row + 1)) {
-                        layRow(row + 1, darks | number << row * wide);
+                    album.narrowColumns(row, number);
+                    if (album.canGoOn(row + 1)) {
+                        layRow(album, row + 1, darks | number << row * album.wide);
                     }
                 }
+            }
+        }
+
+        private void add(int picture) {
+            if (count >= 0 && count < pictures.length) {
+                pictures[count] = picture;
+                count++;
             }
         }
 

@@ -9,6 +9,7 @@ import java.util.ArrayList;
 import java.util.Collections;
 import java.util.List;
 import java.util.Set;
+import java.util.TreeMap;
 import java.util.TreeSet;
 import java.util.regex.Matcher;
 import java.util.regex.Pattern;
@@ -19,6 +20,7 @@ import java.util.regex.Pattern;
  */
 public final class FaceTest {
     private static final Path SOURCE = Path.of("src/main/java/TesseraHall.java");
+    private static final Path DOCUMENT = Path.of("../shared/DOC.md");
     private static int wrong = 0;
 
     private static final String[] FACE = {
@@ -61,6 +63,8 @@ public final class FaceTest {
         checkFace();
         checkInside(TesseraHall.class);
         checkSource(Files.readString(SOURCE));
+        checkOrder(Files.readString(DOCUMENT), Files.readString(SOURCE));
+        checkCalls(Files.readString(SOURCE));
         System.out.println(wrong == 0 ? "the face and the source are as due" : wrong + " wrong");
         if (wrong > 0) {
             System.exit(1);
@@ -137,6 +141,7 @@ public final class FaceTest {
             due(!matcher.find(), "rule " + row.substring(0, row.indexOf(' ')) + " leaves out: " + row);
         }
         due(code.chars().allMatch(c -> c < 127), "a sign beyond 126");
+        due(code.split("\\bclass\\b", -1).length - 1 <= 12, "rule 11: more than twelve classes");
         checkMethodLengths(source);
     }
 
@@ -154,5 +159,71 @@ public final class FaceTest {
                 start = -1;
             }
         }
+    }
+
+    /** The heads of the face, word by word as the document has them, each group behind its "---- " words. */
+    private static void checkOrder(String document, String source) {
+        String face = document.substring(document.indexOf("```java"), document.indexOf("## Terms"));
+        List<String> want = new ArrayList<>();
+        for (String head : heads(face, ";")) {
+            Matcher group = Pattern.compile("Ahead of the calls `" + nameIn(head) + "`.* says: (---- .*)\\.\n")
+                    .matcher(document);
+            if (group.find()) {
+                want.add(group.group(1));
+            }
+            want.add(head);
+        }
+        due(want.size() == 31, "the document's face was not found, but " + want);
+        List<String> found = heads(source, " \\{");
+        found.removeAll(List.of("---- helpers of the face", "public final class TesseraHall"));
+        due(found.equals(want), "the source has the face as " + found);
+    }
+
+    /** The public heads in a text, and the rows of comments that begin with "---- ", in their order. */
+    private static List<String> heads(String text, String end) {
+        List<String> heads = new ArrayList<>();
+        Matcher head = Pattern.compile("// (---- .*)|(?m:^) *(public [^;{=]*?)" + end).matcher(text);
+        while (head.find()) {
+            heads.add(head.group(1) != null ? head.group(1) : head.group(2).replaceAll("\\s+", " "));
+        }
+        return heads;
+    }
+
+    private static String nameIn(String head) {
+        return head.replaceAll("\\(.*", "").replaceAll(".* ", "");
+    }
+
+    /** Rules 8 and 11: what calls itself is private and static, and no other chain of calls is deeper than eight. */
+    private static void checkCalls(String source) {
+        TreeMap<String, String> bodies = new TreeMap<>();
+        String head = "((?:[A-Za-z\\[\\]]+ )*(\\w+)\\([^;{}=]*\\)[^;{}=]*)";
+        Matcher method = Pattern.compile("(?ms)^(    |        )" + head + "\\{\n(.*?)^\\1\\}$")
+                .matcher(source.replaceAll("(?m)^ *(/?\\*|//).*$", ""));
+        while (method.find()) {
+            String name = method.group(3);
+            due(bodies.put(name, method.group(4)) == null, "two methods are named " + name);
+            boolean isOwnCaller = Pattern.compile("\\b" + name + "\\(").matcher(method.group(4)).find();
+            due(!isOwnCaller || method.group(2).startsWith("private static "), "rule 8: it calls itself: " + name);
+        }
+        due(bodies.size() > 60, "only these methods were found: " + bodies.keySet());
+        for (String name : bodies.keySet()) {
+            int deep = depth(name, bodies, 0);
+            due(deep <= 8, "rule 11: calls go " + deep + " deep below " + name);
+        }
+    }
+
+    private static int depth(String name, TreeMap<String, String> bodies, int above) {
+        int deepest = 1;
+        for (String other : bodies.keySet()) {
+            boolean isCalled = Pattern.compile("(?<!\\w)" + other + "\\(").matcher(bodies.get(name)).find();
+            if (isCalled && !other.equals(name)) {
+                if (above > 20) {
+                    due(false, "rule 8: methods call one another: " + name + " and " + other);
+                    return deepest;
+                }
+                deepest = Math.max(deepest, 1 + depth(other, bodies, above + 1));
+            }
+        }
+        return deepest;
     }
 }
